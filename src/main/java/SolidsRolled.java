@@ -46,6 +46,7 @@ public final class SolidsRolled {
     private static final int RACK_ROOM = 9;
     private static final int MOST_LIKELY_ROLLS = 12;
     private static final int MOST_LOTS = 50;
+    private static final int WITHOUT_SIGN = 0x7fffffff;
 
     private static final int STANCES = 24;
     private static final int MOST_STATES = 2 * MOST_TILES * STANCES;
@@ -427,7 +428,7 @@ public final class SolidsRolled {
         int done = 0;
         for (int i = 0; i < n; i++) {
             seed = seed * 1664525 + 1013904223;
-            int next = world.rolled(state, (seed & Integer.MAX_VALUE) / 256 % WAYS);
+            int next = world.rolled(state, (seed & WITHOUT_SIGN) / 256 % WAYS);
             if (next >= 0) {
                 state = next;
                 done++;
@@ -902,7 +903,8 @@ public final class SolidsRolled {
         }
 
         int faceBelow(int at) {
-            return stances().faceBelow(at % STANCES);
+            Stances stances = isTetra(kind) ? tetras : cubes;
+            return stances.faceBelow(at % STANCES);
         }
 
         int positionOf(int face) {
@@ -949,7 +951,8 @@ public final class SolidsRolled {
         boolean pointsUp(int cell) {
             int width = 2 * columns;
             int row = rowOf(cell, width);
-            return (row + cell - row * width) % 2 == 0;
+            int k = cell - row * width;
+            return (row + k) % 2 == 0;
         }
 
         private static int rowOf(int place, int width) {
@@ -958,22 +961,20 @@ public final class SolidsRolled {
 
         /** The state behind a ROLL, or NONE if it can't be done. */
         int rolled(int at, int way) {
-            return isTetra(kind) ? rolledTetra(at, way) : rolledCube(at, way);
-        }
-
-        private int rolledCube(int at, int way) {
+            if (isTetra(kind)) {
+                return rolledTetra(at, way);
+            }
             int place = at / STANCES;
-            int lie = lie(at % STANCES);
             int stance = cubes.turnedTo(at % STANCES, way);
             int row = rowOf(place, columns);
             int column = place - row * columns;
-            int far = reach(lie, way);
+            int far = reach(lie(at % STANCES), way);
             if (way == UP || way == DOWN) {
                 row += way == DOWN ? far : -far;
             } else {
                 column += way == RIGHT ? far : -far;
             }
-            return mayLie(row, column, stance) ? (row * columns + column) * STANCES + stance : NONE;
+            return mayLie(row, column, lie(stance)) ? (row * columns + column) * STANCES + stance : NONE;
         }
 
         /** By how many TILES the PLACE moves: a BLOCK's is told by the upper or left one of its TILES. */
@@ -991,17 +992,14 @@ public final class SolidsRolled {
             }
         }
 
-        private boolean mayLie(int row, int column, int stance) {
-            int lie = lie(stance);
+        private boolean mayLie(int row, int column, int lie) {
+            int lastRow = lie == ALONG ? row + 1 : row;
+            int lastColumn = lie == ACROSS ? column + 1 : column;
+            if (row < 0 || lastRow >= rows || column < 0 || lastColumn >= columns) {
+                return false;
+            }
             boolean weighs = kind == HEAVY || kind == LONG && lie != STANDING;
-            return isBorneAt(row, column, weighs)
-                && (lie != ACROSS || isBorneAt(row, column + 1, weighs))
-                && (lie != ALONG || isBorneAt(row + 1, column, weighs));
-        }
-
-        private boolean isBorneAt(int row, int column, boolean weighs) {
-            return row >= 0 && row < rows && column >= 0 && column < columns
-                && bears(row * columns + column, weighs);
+            return bears(row * columns + column, weighs) && bears(lastRow * columns + lastColumn, weighs);
         }
 
         private int rolledTetra(int at, int way) {
@@ -1009,7 +1007,8 @@ public final class SolidsRolled {
             int width = 2 * columns;
             int row = rowOf(cell, width);
             int k = cell - row * width;
-            if (way == UP && pointsUp(cell) || way == DOWN && !pointsUp(cell)) {
+            boolean pointsUp = (row + k) % 2 == 0;
+            if (way == UP && pointsUp || way == DOWN && !pointsUp) {
                 return NONE;
             }
             row += way == DOWN ? 1 : way == UP ? -1 : 0;
@@ -1026,7 +1025,8 @@ public final class SolidsRolled {
 
         /** Whether a state is at a PLACE with a face below, as SOONEST counts it. */
         boolean isAt(int at, int place, int face) {
-            return at / STANCES == place && stands(at) && (face == ANY_FACE || faceBelow(at) == face);
+            return at / STANCES == place && lie(at % STANCES) == STANDING
+                && (face == ANY_FACE || faceBelow(at) == face);
         }
     }
 
@@ -1165,7 +1165,7 @@ public final class SolidsRolled {
 
         int statesFilled(World world, int hole) {
             world.tiles[hole] = FLOOR;
-            floodAll(world);
+            floodTo(world, EVERYWHERE, ANY_FACE);
             world.tiles[hole] = HOLE;
             return size;
         }

@@ -22,7 +22,7 @@ final class FaceTest {
     private static final String[] BANNED = {
         "\\bthrow\\b", "\\bthrows\\b", "\\btry\\b", "\\bcatch\\b", "\\bsynchronized\\b", "\\bassert\\b", "->", "::",
         "\\bpackage\\b", "\\bThread\\b", "\\bRandom\\b", "\\bSystem\\.(?!arraycopy)", "\\bequals\\b", "\\bhashCode\\b",
-        "\\btoString\\b", "Exact\\b", "\\bObject\\b"};
+        "\\btoString\\b", "Exact\\b", "\\bObject\\b", "_VALUE\\b"};
 
     public static void main(String[] args) throws Exception {
         Due due = new Due("FaceTest");

@@ -390,6 +390,7 @@ final class PromisesTest {
         is("none", x.solid(13), -3);
         is("what comes ahead of none", x.solid(6), -2);
         is("a face the latest hadn't", x.solid(14), -2);
+        refusals(x, 0, 2, 2, 0, 0, 0);
     }
 
     private static void promise10RollCubes() {
@@ -691,6 +692,11 @@ final class PromisesTest {
         x.roll(RIGHT);
         reached(x, 3, 3, 0, 2);
         is("once more", x.reached(1), 3);
+        is("once more", x.reached(1), 3);
+        x.places(CUBE, 0);
+        is("even", x.reached(2), 0);
+        x.roll(RIGHT);
+        is("even, one roll later", x.reached(2), 0);
         is("what", x.reached(4), -2);
         is("what", x.reached(-1), -2);
         refusals(x, 0, 2, 0, 0, 0, 0);
@@ -847,10 +853,14 @@ final class PromisesTest {
         rolls(x, "rr");
         is("back", x.needed(0), 1 + 2);
         is("two walks", with("..;..;", CUBE, 0).needed(3), 8);
+        x = with("..;..;", CUBE, 0);
+        rolls(x, "dr");
+        is("two walks back, to other faces", x.needed(0), 1);
         is("one walk", with(".#;..;", CUBE, 0).needed(3), 4 + 8);
         is("a longer walk else", with("...;.#.;...;", CUBE, 0).needed(2), 2 + 4);
         is("no walk", with(".#.;", CUBE, 0).needed(2), 0);
         is("in thought", x.count(2), 0);
+        is("in thought", x.of(1, 0), 0);
         x = with("....;", BLOCK, 0);
         is("all it lies on", x.needed(3), 2 + 4 + 8);
         is("never standing there", x.needed(1), 0);
