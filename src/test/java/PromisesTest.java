@@ -1,28 +1,7 @@
 /** For each promise of the document: ordinary calls, the edges that it names, and each refusal in its order. */
-final class PromisesTest {
-    private static final long NOBODY = 4000000000000000001L;
-    private static final long OTHER = 4000000000000000002L;
-    private static final long STATE = 4000000000000000003L;
-    private static final long BELOW = 4000000000000000004L;
-    private static final long ROOM = 4000000000000000006L;
-    private static final long MISSING = 4000000000000000011L;
-    private static final long NO_PLACE = 4000000000000000013L;
-    private static final int MIN = Integer.MIN_VALUE;
-    private static final int MAX = Integer.MAX_VALUE;
-    private static final int CUBE = 0;
-    private static final int HEAVY = 1;
-    private static final int BLOCK = 2;
-    private static final int LONG = 3;
-    private static final int TETRA = 4;
-    private static final int SHY = 5;
-    private static final int UP = 0;
-    private static final int RIGHT = 1;
-    private static final int DOWN = 2;
-    private static final int LEFT = 3;
-
-    private static final Due DUE = new Due("PromisesTest");
-
+final class PromisesTest extends Calls {
     public static void main(String[] args) {
+        begin("PromisesTest");
         promise01NewObject();
         promise02Letter();
         promise03Board();
@@ -63,62 +42,7 @@ final class PromisesTest {
         promise33Image();
         promise34On();
         promise35Count();
-        DUE.end();
-    }
-
-    private static void is(String call, long got, long want) {
-        DUE.is(call, got, want);
-    }
-
-    private static void tell(SolidsRolled x, String letters) {
-        for (int i = 0; i < letters.length(); i++) {
-            x.letter(letters.charAt(i));
-        }
-    }
-
-    private static int told(SolidsRolled x, String letters) {
-        tell(x, letters);
-        return x.board();
-    }
-
-    /** A new object with a board told in letters and a solid at a place. */
-    private static SolidsRolled with(String letters, int kind, int place) {
-        SolidsRolled x = new SolidsRolled();
-        told(x, letters);
-        is("places on " + letters, x.places(kind, place), 1);
-        return x;
-    }
-
-    /** A new object whose solid is NONE; the latest kind is as told. */
-    private static SolidsRolled none(int kind) {
-        SolidsRolled x = with("..;..;", kind, 0);
-        told(x, "#.;..;");
-        return x;
-    }
-
-    private static void rolls(SolidsRolled x, String ways) {
-        for (int i = 0; i < ways.length(); i++) {
-            x.roll("urdl".indexOf(ways.charAt(i)));
-        }
-    }
-
-    private static void prints(SolidsRolled x, int... want) {
-        for (int t = 0; t < want.length; t++) {
-            is("print of " + t, x.of(t, 1), want[t]);
-        }
-    }
-
-    /** Which face is at positions 0, 1, .. */
-    private static void facesAt(SolidsRolled x, int... want) {
-        for (int position = 0; position < want.length; position++) {
-            is("where face " + want[position] + " is", x.solid(10 + want[position]), position);
-        }
-    }
-
-    private static void refusals(SolidsRolled x, int... want) {
-        for (int i = 0; i < want.length; i++) {
-            is("refusals -" + (i + 1), x.count(11 + i), want[i]);
-        }
+        end();
     }
 
     private static void promise01NewObject() {
@@ -706,13 +630,6 @@ final class PromisesTest {
         refusals(x, 0, 1, 1, 0, 0, 0);
     }
 
-    private static void reached(SolidsRolled x, int states, int places, int even, int farthest) {
-        is("states", x.reached(0), states);
-        is("places", x.reached(1), places);
-        is("even", x.reached(2), even);
-        is("farthest", x.reached(3), farthest);
-    }
-
     private static void promise16Soonest() {
         SolidsRolled x = with("....;", CUBE, 0);
         is("now", x.soonest(0, -1), 0);
@@ -784,13 +701,6 @@ final class PromisesTest {
         refusals(x, 1, 0, 1, 1, 0, 0);
     }
 
-    private static void walk(SolidsRolled x, int place, int face, int... ways) {
-        for (int i = 0; i < ways.length; i++) {
-            is("way " + i + " to " + place, x.walk(place, face, i), ways[i]);
-        }
-        is("no more ways to " + place, x.walk(place, face, ways.length), -9);
-    }
-
     private static void promise18Faces() {
         SolidsRolled x = with("...;", CUBE, 0);
         is("now", x.faces(0), 2);
@@ -836,11 +746,6 @@ final class PromisesTest {
         is("none", x.fill(0), -3);
         is("what comes ahead of none", x.fill(2), -2);
         refusals(x, 0, 1, 1, 0, 0, 0);
-    }
-
-    private static void fill(SolidsRolled x, int hole, int states) {
-        is("fill", x.fill(0), hole);
-        is("states then", x.fill(1), states);
     }
 
     private static void promise20Needed() {
@@ -919,11 +824,6 @@ final class PromisesTest {
         is("none", x.paint(0, 0), -3);
         is("tile comes ahead of none", x.paint(4, 0), -1);
         refusals(x, 1, 0, 1, 0, 0, 0);
-    }
-
-    private static void likely(SolidsRolled x, int n, int place, long above, long below) {
-        is("likely above " + n + " " + place, x.likely(n, place, 0), above);
-        is("likely below " + n + " " + place, x.likely(n, place, 1), below);
     }
 
     private static void promise22Likely() {
