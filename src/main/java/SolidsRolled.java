@@ -1033,7 +1033,6 @@ public final class SolidsRolled {
     /** What can be come to in thought; its rows are made once and used by every search. */
     private static final class Search {
         private static final int EVERYWHERE = -1;
-        private static final int BOTH = 3;
 
         final int[] steps;
         private final int[] cameFrom;
@@ -1048,7 +1047,7 @@ public final class SolidsRolled {
             steps = new int[MOST_STATES];
             cameFrom = new int[MOST_STATES];
             cameBy = new int[MOST_STATES];
-            queue = new int[2 * MOST_STATES];
+            queue = new int[MOST_STATES];
             marks = new int[MOST_STATES];
             now = new int[MOST_STATES];
             then = new int[MOST_STATES];
@@ -1125,23 +1124,14 @@ public final class SolidsRolled {
             return bits;
         }
 
-        /** Each state is come to twice, once by an even number of ROLLS, once by an odd one. */
+        /** While each ROLL changes between even and odd fewest ROLLS, each walk does: one that doesn't is enough. */
         boolean hasEven(World world) {
-            Arrays.fill(marks, 0);
-            marks[world.state] = 1;
-            queue[0] = 2 * world.state;
-            size = 1;
-            for (int head = 0; head < size && head < queue.length; head++) {
-                int odd = 1 - queue[head] % 2;
+            floodAll(world);
+            for (int i = 0; i < size; i++) {
                 for (int way = 0; way < WAYS; way++) {
-                    int next = world.rolled(queue[head] / 2, way);
-                    if (next >= 0 && (marks[next] >> odd & 1) == 0) {
-                        marks[next] |= 1 << odd;
-                        queue[size] = 2 * next + odd;
-                        size++;
-                        if (marks[next] == BOTH) {
-                            return true;
-                        }
+                    int next = world.rolled(queue[i], way);
+                    if (next >= 0 && (steps[queue[i]] + 1 - steps[next]) % 2 != 0) {
+                        return true;
                     }
                 }
             }

@@ -33,7 +33,8 @@ final class FaceTest {
 
     private static void members(Due due) {
         Class<?> type = SolidsRolled.class;
-        due.isTrue("public final class", Modifier.isPublic(type.getModifiers()) && Modifier.isFinal(type.getModifiers()));
+        due.isTrue("public class", Modifier.isPublic(type.getModifiers()));
+        due.isTrue("final class", Modifier.isFinal(type.getModifiers()));
         Set<String> open = new TreeSet<>();
         Set<String> names = new TreeSet<>();
         for (Method method : type.getDeclaredMethods()) {

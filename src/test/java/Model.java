@@ -798,7 +798,8 @@ final class Model {
         if (what >= 11 && what <= 16) {
             return refused.getOrDefault(10 - what, 0);
         }
-        int[] told = {s.rows, s.columns, holes, cracked, s.prints.size(), s.ink, letters.length(), undone.size(), s.kind};
+        int[] told = {s.rows, s.columns, holes, cracked, s.prints.size(), s.ink, letters.length(), undone.size(),
+            s.kind};
         return what >= 0 && what <= 8 ? told[what] : -9;
     }
 }

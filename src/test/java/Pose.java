@@ -141,7 +141,10 @@ abstract class Pose {
         }
     }
 
-    /** Four corners: left, right and middle (above or below the level edge) on the floor, and the tip; a face is named as the corner that it hasn't. */
+    /**
+     * Four corners: left, right and middle (above or below the level edge) on the floor, and the tip; a face is
+     * named as the corner that it hasn't.
+     */
     static final class Tetra extends Pose {
         private final int row;
         private final int k;
