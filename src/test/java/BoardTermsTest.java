@@ -26,6 +26,7 @@ final class BoardTermsTest extends Calls {
         shyPlacedOnPrints();
         printedOnAllItsTiles();
         placingPrintsNothing();
+        noneAndAll();
         end();
     }
 
@@ -545,5 +546,30 @@ final class BoardTermsTest extends Calls {
             x.on();
             is("nor by an image", x.count(4), 0);
         }
+    }
+
+    private static void noneAndAll() {
+        about("No PRINTS: how many TILES bore one");
+        SolidsRolled x = with(LARGEST, CUBE, 1);
+        is("none", x.wipes(), 0);
+        is("none", x.count(4), 0);
+        rolls(x, "lrrrrrdllllldrrrrrdllllldrrrrrdlllll");
+        is("all", x.count(4), 36);
+        is("all", x.wipes(), 36);
+        is("none again", x.wipes(), 0);
+        is("none again", x.count(4), 0);
+        x.roll(UP);
+        is("one", x.wipes(), 1);
+        about("2 HOLES, 3 CRACKED TILES, 4 TILES with a PRINT");
+        is("all holes", told(x, LARGEST.replace('.', '#')), 36);
+        is("holes", x.count(2), 36);
+        is("cracked", x.count(3), 0);
+        is("all cracked", told(x, LARGEST.replace('.', '~')), 36);
+        is("holes", x.count(2), 0);
+        is("cracked", x.count(3), 36);
+        is("the cube lies on it", x.solid(1), 0);
+        is("on a smaller board", told(x, "#;"), 1);
+        is("holes", x.count(2), 1);
+        is("cracked", x.count(3), 0);
     }
 }
