@@ -703,20 +703,20 @@ public final class SolidsRolled {
             for (int position = 0; position < sides; position++) {
                 faceAt[position] = position;
             }
+            int[] tried = new int[sides];
             for (int stance = 0; stance < STANCES && stance < known; stance++) {
                 for (int way = 0; way < WAYS; way++) {
-                    turned[stance * WAYS + way] = findTurned(stance, turns, way * sides);
+                    for (int position = 0; position < sides; position++) {
+                        tried[position] = faceAt[stance * sides + turns[way * sides + position]];
+                    }
+                    turned[stance * WAYS + way] = knownAs(tried);
                 }
             }
             tellPositions();
         }
 
-        /** The stance behind a turn; the first stance not yet known is where a new one is tried. */
-        private int findTurned(int stance, int[] turns, int from) {
-            int[] tried = new int[sides];
-            for (int position = 0; position < sides; position++) {
-                tried[position] = faceAt[stance * sides + turns[from + position]];
-            }
+        /** The stance whose faces are as tried; a new one becomes the first that was not yet known. */
+        private int knownAs(int[] tried) {
             for (int other = 0; other < known; other++) {
                 if (isStance(other, tried)) {
                     return other;

@@ -2,49 +2,37 @@ import java.lang.reflect.Constructor;
 import java.lang.reflect.Field;
 import java.lang.reflect.Method;
 import java.lang.reflect.Modifier;
-import java.nio.file.Files;
-import java.nio.file.Path;
+import java.util.List;
 import java.util.Set;
 import java.util.TreeSet;
-import java.util.regex.Matcher;
-import java.util.regex.Pattern;
 
-/** The class has the document's face and nothing more, and keeps to what can be read off its text of LANGUAGE.md. */
+/** The class has the face that the document lists, and nothing more. */
 final class FaceTest {
-    private static final String[] FACE = {
-        "int letter(int)", "int board()", "int tile(int,int)", "int of(int,int)", "int places(int,int)",
-        "int ink(int)", "int wipes()", "int solid(int)", "int roll(int)", "int ways()", "int walks()",
-        "int judge()", "int undo()", "int reached(int)", "int soonest(int,int)", "int walk(int,int,int)",
-        "int faces(int)", "int fill(int)", "long needed(int)", "int paint(int,int)", "long likely(int,int,int)",
-        "int lots(int,int,int)", "int list(int,int)", "int put(int,int,int)", "long look(int,int)",
-        "int lays(int,int)", "int tells(int)", "int rack(int,int,int)", "int racks(int,int,int)",
-        "int racked(int,int,int)", "int like(int,int)", "int image()", "int on()", "int count(int)"};
-    private static final String[] BANNED = {
-        "\\bthrow\\b", "\\bthrows\\b", "\\btry\\b", "\\bcatch\\b", "\\bsynchronized\\b", "\\bassert\\b", "->", "::",
-        "\\bpackage\\b", "\\bThread\\b", "\\bRandom\\b", "\\bSystem\\.(?!arraycopy)", "\\bequals\\b", "\\bhashCode\\b",
-        "\\btoString\\b", "Exact\\b", "\\bObject\\b", "_VALUE\\b"};
+    private static final int CALLS = 34;
 
     public static void main(String[] args) throws Exception {
         Due due = new Due("FaceTest");
-        members(due);
-        text(due);
+        members(due, DocumentFace.signatures());
         due.end();
     }
 
-    private static void members(Due due) {
+    private static void members(Due due, List<String> face) {
+        due.is("calls that the document lists", face.size(), CALLS);
         Class<?> type = SolidsRolled.class;
         due.isTrue("public class", Modifier.isPublic(type.getModifiers()));
         due.isTrue("final class", Modifier.isFinal(type.getModifiers()));
+        due.isTrue("of no other class", type.getSuperclass() == Object.class && type.getInterfaces().length == 0);
         Set<String> open = new TreeSet<>();
         Set<String> names = new TreeSet<>();
         for (Method method : type.getDeclaredMethods()) {
             if (!Modifier.isPrivate(method.getModifiers())) {
+                due.isTrue("public, not static: " + method, method.getModifiers() == Modifier.PUBLIC);
                 open.add(signature(method));
                 names.add(method.getName());
             }
         }
-        due.is("open methods", open.size(), FACE.length);
-        for (String each : FACE) {
+        due.is("open methods", open.size(), face.size());
+        for (String each : face) {
             due.isTrue(each, open.contains(each));
         }
         due.is("constructors", type.getDeclaredConstructors().length, 1);
@@ -59,6 +47,7 @@ final class FaceTest {
         for (Class<?> inside : type.getDeclaredClasses()) {
             due.isTrue("static, not open: " + inside.getName(), Modifier.isStatic(inside.getModifiers())
                 && !Modifier.isPublic(inside.getModifiers()) && !Modifier.isProtected(inside.getModifiers()));
+            due.is("classes inside " + inside.getName(), inside.getDeclaredClasses().length, 0);
             fieldsAndNames(due, inside, names);
         }
         due.isTrue("at most twelve classes", type.getDeclaredClasses().length <= 11);
@@ -86,18 +75,5 @@ final class FaceTest {
             text.append(i == 0 ? "" : ",").append(method.getParameterTypes()[i].getName());
         }
         return text.append(')').toString();
-    }
-
-    private static void text(Due due) throws Exception {
-        String whole = Files.readString(Path.of("src/main/java/SolidsRolled.java"));
-        String code = whole.replaceAll("(?s)/\\*.*?\\*/", " ").replaceAll("//[^\\n]*", " ");
-        for (String each : BANNED) {
-            due.isTrue("no " + each, !Pattern.compile(each).matcher(code).find());
-        }
-        Matcher imports = Pattern.compile("import ([^;]+);").matcher(code);
-        while (imports.find()) {
-            due.isTrue("import " + imports.group(1), imports.group(1).equals("java.util.Arrays"));
-        }
-        due.isTrue("signs 1 to 127", whole.chars().allMatch(c -> c > 0 && c < 128));
     }
 }
